@@ -1343,7 +1343,7 @@ public final class BellBalance {
         }
 
         /* Bells that are heard as soon as may be leave the most room to those behind, so no order is missed. */
-        int ordersBehind(int past, int rank, int depth) {
+        private int ordersBehind(int past, int rank, int depth) {
             if (past == (1 << size) - 1 || depth > MOST_BELLS) {
                 return 1;
             }
@@ -1440,7 +1440,7 @@ public final class BellBalance {
         }
 
         /* Of the pulls by which a bell strikes at one time the least stands for all: a greater one comes later in the order of rows. */
-        void seek(Tower tower, Hearing hearing, int i) {
+        private void seek(Tower tower, Hearing hearing, int i) {
             if (i >= tower.size || i >= MOST_BELLS) {
                 take(hearing.unevenness());
                 return;

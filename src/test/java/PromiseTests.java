@@ -236,12 +236,14 @@ public final class PromiseTests {
         write(x, 0, SIX);
         due(11, "tower", x.tower(0), 6);
         x.stroke(2, 6);
+        x.keep(0);
         x.keep(1);
+        x.keep(2);
         due(11, "deeds", x.count(2), 1);
         due(11, "over", x.count(3), 1);
         write(x, 1, "d2 h704 g1");
         due(11, "a fault", x.tower(1), STATE);
-        due(11, "refused: all stays", x.count(8), 1);
+        due(11, "refused: all stays", x.count(8), 3);
         due(11, "refused: all stays", x.count(0), 6);
         due(11, "BAD", x.tower(4), BAD);
         finds(11, "missing", x, x.tower(2), NOTHING);
@@ -357,9 +359,26 @@ public final class PromiseTests {
         lay(x, 0, 0, 0, 0, 0, 0, 7);
         finds(16, "UNLIKE ahead of FULL", x, x.round(0), UNLIKE);
         due(43, "FULL", x.lots(1, 1), FULL);
+        fullAtForty();
         round16();
         mend17();
         undo18();
+    }
+
+    private static void fullAtForty() {
+        BellBalance x = with("d0 q120");
+        x.row(0, 1);
+        for (int k = 0; k < 39; k++) {
+            x.stroke(0, 0);
+        }
+        due(16, "the 40th", x.round(0), 1);
+        due(16, "one more", x.round(0), FULL);
+        x.undo(38);
+        x.stroke(0, 6);
+        due(17, "the 40th", x.mend(0), 1);
+        due(17, "40 deeds", x.count(2), 40);
+        due(18, "all of them", x.undo(0), 40);
+        due(18, "stands", bell(x, 0, 4), 1);
     }
 
     private static void round16() {
@@ -537,6 +556,8 @@ public final class PromiseTests {
         holds(25, x, 0, 2);
         due(25, "none, as it is", x.arms(0, 0, 12, 0), 0);
         holds(25, x, 0);
+        due(25, "to 0: it is there and stays", x.arms(1, 12, 0, 0), 0);
+        holds(25, x, 0, 0, 0, 0, 0, 0, 0, 0, 0, 0, 0, 0, 0);
         lay(x, 0, 7, 7);
         due(25, "none do", x.arms(0, 0, 13, 0), NONE);
         holds(25, x, 0, 7, 7);
@@ -645,6 +666,11 @@ public final class PromiseTests {
         x = with("d0 b110 b120");
         due(31, "17 and 21", x.even(0), 2);
         holds(31, x, 0, 5, 0);
+        x.stroke(0, 0);
+        x.stroke(0, 0);
+        due(31, "anew, from 8: 16 (at 12 by 5) and 21", x.even(4), 3);
+        holds(31, x, 4, 5, 0);
+        x.undo(0);
         due(33, "one order", x.orders(), 1);
         lay(x, 1, 0, 1);
         due(32, "the first: 14 and 21", x.change(1, 2), 5);
@@ -712,6 +738,8 @@ public final class PromiseTests {
     }
 
     private static void turnsThirtyFiveToThirtySix() {
+        due(36, "by itself: 18 by 2", with("d0 q118").first(0, 1), 2);
+        due(36, "another kind just ahead does not matter", firstBehindAnother(), NONE);
         BellBalance x = with("d0 b120 q120 b119 q103 g120");
         due(35, "stands", x.game(0, 0), 1);
         due(35, "does not", x.game(2, 0), 0);
@@ -734,6 +762,12 @@ public final class PromiseTests {
         due(35, "BAD ahead", x.game(1, 4), BAD);
         due(36, "STATE", x.first(1, 1), STATE);
         due(36, "BAD ahead", x.first(1, 0), BAD);
+    }
+
+    private static int firstBehindAnother() {
+        BellBalance x = with("d0 q120 b120");
+        x.first(0, 1);
+        return x.first(1, 1);
     }
 
     private static void toldThirtySevenToThirtyNine() {

@@ -3,6 +3,8 @@ import java.util.Random;
 /** Random runs of calls, on the class and on the oracle; all that is told is compared behind every call. */
 public final class OracleTests {
     private static final Due DUE = new Due("OracleTests");
+    /* An object is used for 512 calls; the dearest step makes some 100. */
+    private static final int MOST_CALLS = 400;
     private static final int[] ODD = {Integer.MIN_VALUE, -1000, -9, -1, 41, 61, 100, 1 << 30, Integer.MAX_VALUE};
 
     private final Random random;
@@ -10,6 +12,7 @@ public final class OracleTests {
     private final Oracle o = new Oracle();
     private final StringBuilder story = new StringBuilder();
     private int bells;
+    private int calls;
     private boolean wrong = false;
 
     private OracleTests(long seed) {
@@ -17,7 +20,7 @@ public final class OracleTests {
     }
 
     public static void main(String[] args) {
-        for (int seed = 1; seed <= 1500; seed++) {
+        for (int seed = 1; seed <= 5000; seed++) {
             new OracleTests(seed).run(seed % 40 == 0 ? 6 : 4);
         }
         for (int seed = 1; seed <= 4000; seed++) {
@@ -30,10 +33,12 @@ public final class OracleTests {
         if (random.nextInt(12) != 0) {
             setUp(1 + random.nextInt(mostBells));
         }
-        int calls = 40 + random.nextInt(120);
-        for (int k = 0; k < calls && !wrong; k++) {
+        while (calls < MOST_CALLS && !wrong) {
             call();
             same();
+        }
+        for (int f = 0; f <= 6; f++) {
+            due("findings " + f, x.findings(f), o.findings(f));
         }
     }
 
@@ -87,6 +92,7 @@ public final class OracleTests {
     }
 
     private void due(String what, long got, long want) {
+        calls++;
         story.append(what).append(" = ").append(want).append('\n');
         DUE.is(what, got, want);
         if (got != want && !wrong) {
@@ -100,9 +106,6 @@ public final class OracleTests {
         due("upper", x.upper(), o.upper());
         due("lower", x.lower(), o.lower());
         due("finding", x.finding(), o.finding());
-        for (int f = 0; f <= 6; f++) {
-            due("findings " + f, x.findings(f), o.findings(f));
-        }
         due("digest", x.digest(), o.digest());
     }
 
@@ -154,6 +157,7 @@ public final class OracleTests {
         for (int i = 0; i < x.count(0); i++) {
             x.bell(i, 3);
             o.bell(i, 3);
+            calls += 3;
             if (x.asked() == 0) {
                 int place = random.nextInt(n + 1);
                 order[n++] = order[place];
@@ -174,6 +178,7 @@ public final class OracleTests {
             int pull = random.nextInt(7);
             int when = x.strikes(i, pull);
             x.stroke(i, pull);
+            calls += 2;
             due("lay", x.lay(r, 2 * k, pull), o.lay(r, 2 * k, pull));
             int told = when == -4 || when < 0 ? -9 : when;
             due("lay", x.lay(r, 2 * k + 1, told), o.lay(r, 2 * k + 1, told));

@@ -42,7 +42,7 @@ public final class RoomTests {
         List<Method> face = face();
         for (int run = 0; run < 400; run++) {
             BellBalance x = run % 4 == 0 ? new BellBalance() : tower(run % 4 == 1 ? "d0 q120" : "d2 b110 g916 t100 n105");
-            for (int k = 0; k < 500; k++) {
+            for (int k = 0; k < 480; k++) {
                 Method m = face.get(random.nextInt(face.size()));
                 Object[] given = new Object[m.getParameterCount()];
                 for (int p = 0; p < given.length; p++) {

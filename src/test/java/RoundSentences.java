@@ -133,7 +133,6 @@ final class RoundSentences extends Scenes {
         s.is(() -> overAnd("d0q120b110b100"), "without the one that is over", 0, x -> x.even(0));
         s.is(() -> with("d0q120g920"), "20 and 26, as none may break", 4, x -> x.even(0));
         s.is(RoundSentences::oneBetween, "12 and 28, as who is over does not come between", 14, x -> x.even(0));
-        s.is(RoundSentences::heardBefore, "17 and 21, whatever was heard before", 2, x -> x.even(1));
 
         s.says(31, "the first such row of PULLS comes to a ROW (anew; 0 for who is OVER).");
         evens(s, "17 (by 5, not 6) and 21 (by 0)", with("d0b110b120"), 2, 5, 0);
@@ -145,6 +144,7 @@ final class RoundSentences extends Scenes {
         evens(s, "all over", allOver("d0q120q120", 2), 0, 0, 0);
         evens(s, "six: 12 each by the least pulls", with("d0b100b101b102b103b104b105"), 0, 6, 5, 4, 3, 2, 1);
         evens(s, "none may break", with("d0q120g920"), 4, 0, 0);
+        evens(s, "whatever was heard before", heardBefore(), 0, 0, 0);
         BellBalance y = with("d0b110b120", 9, 9, 9, 9);
         s.is("in the place of another", y.even(0), 2);
         s.row("in the place of another", y, 0, 5, 0);
@@ -174,7 +174,7 @@ final class RoundSentences extends Scenes {
     }
 
     private static BellBalance heardBefore() {
-        BellBalance x = with("d0b110b120", 1, 1);
+        BellBalance x = with("d0q110q110", 6, 6);
         x.late(0);
         return x;
     }

@@ -111,6 +111,13 @@ final class DeedSentences extends Scenes {
         lay(v, 0, 6, 6, 6, 6, 6, 6);
         s.is("six pulls of 6", v.round(0), 63);
         s.is("six pulls of 6, the last one's height", bell(v, 5, HEIGHT), 12);
+        for (int behind : new int[] {MIN, -1, 7, MAX}) {
+            BellBalance u = with("d0q110q110", 1, 2, behind, behind);
+            lay(u, 0, 1, 2);
+            s.is("the row held " + behind + " behind its end before", u.round(0), 3);
+            s.is("the row held " + behind + " behind its end before, the first one's height", bell(u, 0, HEIGHT), 11);
+            s.is("the row held " + behind + " behind its end before, the last one's height", bell(u, 1, HEIGHT), 12);
+        }
 
         s.says(16, "BAD");
         for (int r : new int[] {-1, 6, MIN, MAX}) {

@@ -253,6 +253,7 @@ final class DeedSentences extends Scenes {
         }
         s.no(DeedSentences::fourDeeds, "from 4 on: none", 0, x -> x.undo(4));
         s.is(Scenes::full, "all 40", 40, x -> x.undo(0));
+        s.no(Scenes::rich, "from 2 on: none", 0, x -> x.undo(2));
         s.no(() -> with("d0b110"), "of none", 0, x -> x.undo(0));
         s.no(BellBalance::new, "without bells", 0, x -> x.undo(0));
         BellBalance y = fourDeeds();
@@ -266,6 +267,12 @@ final class DeedSentences extends Scenes {
         s.is("kept ones stay", w.count(KEPT), 2);
         s.is("with their deeds", w.on(2), 2);
 
+        BellBalance v = rich();
+        v.undo(1);
+        s.is("the rows stay", v.mean(1), 1);
+        s.is("the texts stay", v.fault(1), 10);
+        s.is("the latest finding stays", v.finding(), NOTHING);
+
         s.says(18, "(the DAMP stays)");
         BellBalance z = fourDeeds();
         z.undo(0);
@@ -278,6 +285,7 @@ final class DeedSentences extends Scenes {
         for (int n : new int[] {-1, 5, MIN, MAX}) {
             s.no(DeedSentences::fourDeeds, "from " + n + " on", BAD, x -> x.undo(n));
         }
+        s.no(Scenes::rich, "from 3 on, of 2", BAD, x -> x.undo(3));
         s.no(BellBalance::new, "from 1 on, of none", BAD, x -> x.undo(1));
         s.no(Scenes::full, "from 41 on, of 40", BAD, x -> x.undo(41));
     }

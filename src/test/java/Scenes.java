@@ -62,7 +62,8 @@ class Scenes {
 
     /*
      * Something of all there is: row 0 has pulls for all, row 1 three ints, row 2 none, 3 to 5 are missing; text 0
-     * is the tower's, 1 has a fault, 2 is empty, 3 is missing; bell 2 is over; towers are kept in 0 and 2.
+     * is the tower's, 1 has a fault, 2 is empty, 3 is missing; bell 2 is over; towers are kept in 0 and 2. Every
+     * finding was answered once.
      */
     static BellBalance rich() {
         BellBalance x = with(SIX, 1, 2, 0, 1, 3, 0);
@@ -75,6 +76,10 @@ class Scenes {
         x.round(0);
         x.keep(2);
         x.odds(0, 3, 2, 5);
+        x.row(5, -1);
+        x.mean(2);
+        x.mark(0, HEAVY);
+        x.at(1, 3);
         x.tear(5);
         x.at(1, 1);
         return x;

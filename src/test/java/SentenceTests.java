@@ -12,6 +12,7 @@ public final class SentenceTests {
         RoundSentences.test(s);
         HeardSentences.test(s);
         ToldSentences.test(s);
+        WhichSentences.test(s);
         s.end();
     }
 }

@@ -164,7 +164,8 @@ final class Sentences {
         }
     }
 
-    private void alike(String what, List<Long> got, List<Long> want) {
+    /** The same things, one by one. */
+    void alike(String what, List<Long> got, List<Long> want) {
         is(what + ", as many things seen", got.size(), want.size());
         for (int k = 0; k < Math.min(got.size(), want.size()); k++) {
             is(what + ", thing " + k, got.get(k), want.get(k));

@@ -14,6 +14,7 @@ final class ToldSentences extends Scenes {
         finding48(s);
         findings49(s);
         digest50(s);
+        onlyTelling(s);
     }
 
     private static void asked44(Sentences s) {
@@ -224,11 +225,67 @@ final class ToldSentences extends Scenes {
         z.round(0);
         z.mark(0, 1);
         s.is("UNLIKE", z.findings(3), 2);
+        BellBalance w = rich();
+        w.at(1, 0);
+        w.at(1, 3);
+        w.tear(5);
+        w.tear(1);
+        w.mean(2);
+        w.mark(0, HEAVY);
+        w.mark(1, HEAVY);
+        int[] counted = {0, 2, 2, 2, 2, 1};
+        for (int f = 1; f <= 5; f++) {
+            s.is("each is counted alone, " + f, w.findings(f), counted[f]);
+        }
 
         s.says(49, "BAD.");
         for (int f : new int[] {0, -1, 6, MIN, MAX}) {
             s.no(Scenes::rich, "finding " + f, BAD, y -> y.findings(f));
         }
+    }
+
+    /* The calls that only tell leave all that the others tell, and tell the same again. */
+    private static void onlyTelling(Sentences s) {
+        String[] words = {"What the latest lay()", "The upper number that was told last", "Its lower number", "0 BELLS, 1 the DAMP, 2 DEEDS", "The latest FINDING", "How often a FINDING (1 .. 5) was answered.", "asked() stays"};
+        Sentences.Call[] calls = {x -> x.asked(), x -> x.upper(), x -> x.lower(), x -> x.count(OVERS), x -> x.finding(), x -> x.findings(SIZE), x -> x.digest()};
+        for (int k = 0; k < calls.length; k++) {
+            s.says(44 + k, words[k]);
+            BellBalance x = rich();
+            long first = calls[k].on(x);
+            s.is("told again", calls[k].on(x), first);
+            s.alike("the others tell the same", toldBut(k, x), toldBut(k, rich()));
+        }
+    }
+
+    /* What is told by all calls but one; those that use count() come last, so that nothing it did is done again. */
+    private static List<Long> toldBut(int left, BellBalance x) {
+        List<Long> all = new ArrayList<>();
+        if (left != 0) {
+            all.add((long) x.asked());
+        }
+        if (left != 1) {
+            all.add(x.upper());
+        }
+        if (left != 2) {
+            all.add(x.lower());
+        }
+        if (left != 4) {
+            all.add((long) x.finding());
+        }
+        for (int f = 1; f <= 5 && left != 5; f++) {
+            all.add((long) x.findings(f));
+        }
+        all.add((long) x.fault(1));
+        for (int i = 0; i < 3; i++) {
+            all.add((long) x.at(1, i));
+        }
+        for (int k = 0; k <= 8 && left != 3; k++) {
+            all.add((long) x.count(k));
+        }
+        if (left != 6) {
+            all.add(x.digest());
+        }
+        return all;
     }
 
     private static long digestOf(List<Integer> values) {

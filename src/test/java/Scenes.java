@@ -75,11 +75,11 @@ class Scenes {
         x.keep(0);
         x.round(0);
         x.keep(2);
-        x.odds(0, 3, 2, 5);
         x.row(5, -1);
         x.mean(2);
         x.mark(0, HEAVY);
         x.at(1, 3);
+        x.odds(0, 3, 2, 5);
         x.tear(5);
         x.at(1, 1);
         return x;
